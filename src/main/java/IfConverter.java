@@ -49,6 +49,8 @@ public final class IfConverter {
     private static final int WAY_TRUE = 1;
     private static final int ALL_BLOCKS = -1;
     private static final int GUARD_0_ALONE = 1;
+    // What an unreachable block has for a guard: a number that is in no set, so it never holds.
+    private static final int NO_GUARD = MAX_BLOCKS;
 
     private final int blockCount;
     private final int cellCount;
@@ -226,36 +228,14 @@ public final class IfConverter {
         if (!isConvertedBlock(b)) {
             return NONE;
         }
-        switch (part) {
-            case TEST:
-                return restoredTests[b];
-            case ON_TRUE:
-                return restoredTrue[b];
-            case ON_FALSE:
-                return restoredFalse[b];
-            case SIZE:
-                return sizes[b];
-            default:
-                return NONE;
-        }
+        return partOf(b, part, restoredTests, restoredTrue, restoredFalse);
     }
 
     public int source(int b, int part) {
         if (!isBlock(b)) {
             return NONE;
         }
-        switch (part) {
-            case TEST:
-                return tests[b];
-            case ON_TRUE:
-                return trueTargets[b];
-            case ON_FALSE:
-                return falseTargets[b];
-            case SIZE:
-                return sizes[b];
-            default:
-                return NONE;
-        }
+        return partOf(b, part, tests, trueTargets, falseTargets);
     }
 
     public int cell(int b, int i, int part) {
@@ -304,6 +284,21 @@ public final class IfConverter {
 
     private static int placeOf(int b, int i) {
         return b * MAX_CELLS + i;
+    }
+
+    private int partOf(int b, int part, int[] test, int[] onTrue, int[] onFalse) {
+        switch (part) {
+            case TEST:
+                return test[b];
+            case ON_TRUE:
+                return onTrue[b];
+            case ON_FALSE:
+                return onFalse[b];
+            case SIZE:
+                return sizes[b];
+            default:
+                return NONE;
+        }
     }
 
     private void setEnding(int b, int test, int onTrue, int onFalse) {
@@ -358,24 +353,21 @@ public final class IfConverter {
     private void numberGuards() {
         guardCount = 0;
         for (int b = 0; b < blockCount; b++) {
-            if (has(reachable, b)) {
-                int g = guardOfSmallerBlock(b);
-                if (g == NONE) {
-                    g = guardCount;
-                    guardCount++;
-                }
-                guardNumbers[b] = g;
+            guardNumbers[b] = has(reachable, b) ? sharedOrNextGuard(b) : NO_GUARD;
+            if (guardNumbers[b] == guardCount) {
+                guardCount++;
             }
         }
     }
 
-    private int guardOfSmallerBlock(int b) {
+    /** The guard that b shares with a smaller block, or else the next number not yet given. */
+    private int sharedOrNextGuard(int b) {
         for (int a = 0; a < b; a++) {
             if (has(onEveryWayTo[b], a) && has(onEveryPath[a], b)) {
                 return guardNumbers[a];
             }
         }
-        return NONE;
+        return guardCount;
     }
 
     private void defineGuards() {
@@ -428,15 +420,11 @@ public final class IfConverter {
 
     private int nextHeldBlock(int first, int held) {
         for (int b = first; b < blockCount; b++) {
-            if (isHeld(b, held)) {
+            if (has(held, guardNumbers[b])) {
                 return b;
             }
         }
         return blockCount;
-    }
-
-    private boolean isHeld(int b, int held) {
-        return has(reachable, b) && has(held, guardNumbers[b]);
     }
 
     private void startRecord(int form) {
@@ -450,7 +438,7 @@ public final class IfConverter {
 
     private int runStraight(int stop) {
         for (int b = 0; b < stop; b++) {
-            if (isHeld(b, heldGuards)) {
+            if (has(heldGuards, guardNumbers[b])) {
                 runBlock(b);
                 heldGuards |= goesOnTrue(tests[b]) ? guardsOnTrue[b] : guardsOnFalse[b];
             }
