@@ -189,18 +189,29 @@ public final class EditTest extends Checks {
         sentence("The state consists of the source (instructions and endings), R inputs, whether the "
                 + "source is converted, and the record of the last run (or none).");
         for (State state : State.ALL) {
-            int[] alone = Look.now(state.make());
+            int[] now = Look.now(state.make());
+            int[] ahead = Look.ahead(state.make());
             IfConverter x = state.make();
-            for (State other : State.ALL) {
-                IfConverter y = other.make();
-                y.input(0, 1);
-                y.emit(0, SET, 1, 0);
-                y.jump(3, 7);
-                y.convert();
-                y.run(GUARDED, 8);
-            }
-            same("another object's calls changed something, " + state, Look.now(x), alone);
+            IfConverter y = state.make();
+            useAnother();
+            same("another object's calls changed something, " + state, Look.now(x), now);
+            same("another object's calls changed something, " + state, Look.ahead(y), ahead);
         }
+    }
+
+    /** An object of the same size, with another text in all blocks. */
+    private static void useAnother() {
+        IfConverter z = new IfConverter(B, State.CELLS, R);
+        for (int b = 0; b < B; b++) {
+            z.emit(b, SET, 3, b);
+            z.branch(b, 2, B, b + 1);
+        }
+        for (int r = 0; r < R; r++) {
+            z.input(r, 1000 + r);
+        }
+        z.convert();
+        z.run(RESTORED, 1);
+        z.run(GUARDED, B);
     }
 
     // Promise 2.

@@ -2,6 +2,7 @@
 public final class TermsTest extends Checks {
     public static void main(String[] args) {
         section("Blocks");
+        theBlocks();
         theOnlyEntry();
         theNumberB();
         instructionsOfABlock();
@@ -18,6 +19,7 @@ public final class TermsTest extends Checks {
         endOfAPath();
         registerValues();
         pathFromB();
+        completePaths();
         reachable();
         section("Guards");
         sameGuard();
@@ -36,6 +38,32 @@ public final class TermsTest extends Checks {
     }
 
     // Blocks.
+
+    private static void theBlocks() {
+        sentence("The region has B blocks, numbered 0..B-1; B is fixed by the constructor.");
+        for (int blocks = 2; blocks <= 12; blocks++) {
+            IfConverter x = new IfConverter(blocks, 1, 2);
+            for (int b = 0; b < blocks; b++) {
+                due(x, Call.emit(b, SET, 0, b), OK);
+                due(x, Call.branch(b, 0, b + 1, b + 1), OK);
+                due(x, Call.clear(b), OK);
+                due(x, Call.jump(b, b + 1), OK);
+                due(x, Call.source(b, SIZE), 0);
+            }
+            due(x, Call.convert(), 1);
+            x.run(GUARDED, blocks);
+            for (int b = 0; b < blocks; b++) {
+                due(x, Call.guardOf(b), 0);
+                due(x, Call.ran(b), 1);
+                due(x, Call.restored(b, SIZE), 0);
+                due(x, Call.depends(b, b, 0), 0);
+            }
+            for (int n : outside(0, blocks - 1)) {
+                due(x, Call.ran(n), NONE);
+                noBlock(x, n);
+            }
+        }
+    }
 
     private static void theOnlyEntry() {
         sentence("Block 0 is the only entry.");
@@ -333,6 +361,19 @@ public final class TermsTest extends Checks {
         due(x, Call.holds(1), 0);
     }
 
+    private static void completePaths() {
+        sentence("A complete path is a path from 0.");
+        // The paths from 1, which nothing leads to, say nothing of the guards of 2 and 3.
+        IfConverter x = new IfConverter(4, 1, 2);
+        x.jump(0, 2);
+        x.branch(1, 0, 3, 4);
+        due(x, Call.convert(), 1);
+        guardsAre(x, 0, NONE, 0, 0);
+        x.branch(1, 0, 2, 3);
+        due(x, Call.convert(), 1);
+        guardsAre(x, 0, NONE, 0, 0);
+    }
+
     private static void reachable() {
         sentence("A block is reachable if some complete path contains it.");
         // Only 1, which nothing leads to, leads to 2; 3 is reached by an ON_FALSE edge alone.
@@ -516,8 +557,11 @@ public final class TermsTest extends Checks {
             refusedInARow(state, none, NONE);
             refusedInARow(state, full, FULL);
         }
+        Call[] runs = {Call.run(GUARDED, 0), Call.run(GUARDED, 8), Call.run(RESTORED, 8)};
+        Call[] questions = {Call.guards(), Call.guardOf(0), Call.depends(1, 0, 1), Call.restored(0, SIZE)};
         for (State state : State.ALL_UNCONVERTED) {
-            refusedInARow(state, new Call[] {Call.run(GUARDED, 8), Call.run(RESTORED, 8)}, UNCONVERTED);
+            refusedInARow(state, runs, UNCONVERTED);
+            refusedInARow(state, questions, NONE);
         }
     }
 
