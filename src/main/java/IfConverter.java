@@ -67,7 +67,8 @@ public final class IfConverter {
     private final int[] trueTargets = new int[MAX_BLOCKS];
     private final int[] falseTargets = new int[MAX_BLOCKS];
 
-    // What is known of the source's paths while it is converted.
+    // What is known of the source's paths while it is converted. A block counts as one of those on
+    // every path from it, so that it is found to depend on an edge that leads right to it.
     private boolean converted = false;
     private int reachable = 0;
     private final int[] onEveryWayTo = new int[MAX_BLOCKS];
@@ -313,7 +314,6 @@ public final class IfConverter {
         return OK;
     }
 
-    /** Finds the reachable blocks and, for each, the blocks passed on every way from 0 to it. */
     private void findWaysToBlocks() {
         reachable = 1;
         onEveryWayTo[0] = 0;
@@ -337,7 +337,6 @@ public final class IfConverter {
         }
     }
 
-    /** Finds for each block the blocks, itself among them, that lie on every path from it. */
     private void findPathsFromBlocks() {
         for (int b = blockCount - 1; b >= 0; b--) {
             int onTrue = onEveryPathFrom(trueTargets[b]);
@@ -360,8 +359,9 @@ public final class IfConverter {
         }
     }
 
-    /** The guard that b shares with a smaller block, or else the next number not yet given. */
     private int sharedOrNextGuard(int b) {
+        // Edges lead to greater numbers only, so a smaller block is never passed after b: that b is
+        // sure of it can be seen on the ways to b alone, and the reverse on the paths from it.
         for (int a = 0; a < b; a++) {
             if (has(onEveryWayTo[b], a) && has(onEveryPath[a], b)) {
                 return guardNumbers[a];
@@ -390,8 +390,8 @@ public final class IfConverter {
         return made;
     }
 
-    /** The blocks that are sure to run once block a goes on to the target, and were not before. */
     private int dependentsOfEdge(int a, int target) {
+        // What is sure to run whichever way block a goes does not hang on this edge.
         return onEveryPathFrom(target) & ~onEveryPath[a];
     }
 
